@@ -22,6 +22,8 @@ public final class TermsDesk {
     private static final int CHANGE_OF_LICENCE = 0;
     private static final int CHANGE_BY_CUTTING = 1;
     private static final int FIRST_CHOICE_LOOK = 5;
+    /** More quarrels than there can be, and more pairs. */
+    private static final int MORE_THAN_ANY = PARTS * PAIRS + 1;
 
     private final Terms terms;
     private final Parts parts;
@@ -651,8 +653,8 @@ public final class TermsDesk {
         /** Takes the best choices; how many quarrels there are with them. */
         int takeBest(int s) {
             lineUp(flow.ofProduct(joins.there));
-            bestQuarrels = Integer.MAX_VALUE;
-            bestPairs = Integer.MAX_VALUE;
+            bestQuarrels = MORE_THAN_ANY;
+            bestPairs = MORE_THAN_ANY;
             int position = 0;
             for (int tried = 0; tried < MOST_WAYS && position != NONE; tried++) {
                 int reached = settle(s, position);

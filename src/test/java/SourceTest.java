@@ -9,6 +9,7 @@ public final class SourceTest {
     private static final String[] BARRED = {
         "\\b(throw|throws|try|catch|finally|synchronized|assert|volatile|import|package|protected|native)\\b",
         "->", "::", "\\bstatic\\s*\\{", "\\b(Object|Exception|System\\.(?!arraycopy\\b)\\w+)\\b", "\\w+Exact\\b",
+        "\\b(Integer|Long|Math)\\b(?!\\.\\w+\\()",
         "\\bwhile\\s*\\(\\s*true", "for\\s*\\(\\s*;\\s*;", "[^\\x00-\\x7f]"};
     private static int wrong = 0;
 
