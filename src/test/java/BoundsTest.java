@@ -52,9 +52,7 @@ public final class BoundsTest {
     }
 
     private static void wrong(String sentence, Scene scene, Call call, int k, List<Integer> values) {
-        List<Call> calls = new ArrayList<>();
-        for (int v : values) calls.add(call.with(k, v));
-        DUE.refused(sentence, scene, calls);
+        for (int v : values) DUE.refused(sentence, scene, List.of(call.with(k, v)));
     }
 
     private static void wrong(String sentence, Scene scene, String text, int k, Integer... values) {

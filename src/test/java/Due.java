@@ -40,18 +40,15 @@ final class Due {
         else holds(told + " is taken", !call.isRefusal(got));
     }
 
-    /** The calls are refused, each one, and change nothing. */
+    /** The calls are refused, each one on a desk of its own, and change nothing. */
     void refused(String sentence, Scene scene, String calls) {
-        refused(sentence, scene, Call.all(calls));
+        for (Call call : Call.all(calls)) refused(sentence, scene, List.of(call));
     }
 
+    /** The same for many calls at once: each is refused, and one behind the other they change nothing. */
     void refused(String sentence, Scene scene, List<Call> calls) {
         for (Call call : calls) is("'" + sentence + "': " + call, call.on(scene.make()), call.refusal());
-        // All at once first: only if something changed is each one looked at for itself.
-        if (scene.state().equals(State.of(scene, calls))) return;
-        for (Call call : calls)
-            holds("'" + sentence + "': " + call + " changes nothing", scene.state().equals(State.of(scene, List.of(call))));
-        holds("'" + sentence + "': " + calls + " together change nothing", false);
+        holds("'" + sentence + "': nothing is changed by " + calls, scene.state().equals(State.of(scene, calls)));
     }
 
     void end() {

@@ -106,7 +106,7 @@ public final class FullDeskTest {
         Model m = Scene.FULL.makeModel();
         List<Call> calls = new ArrayList<>(Call.all("count 3; count 6; quarrels 0; quarrels 1; quarrels 2; quarrels 3; cheapest 0; judge 1"));
         for (int p = 0; p < 24; p++) for (int what = 0; what < 5; what++) calls.add(new Call("look", new int[] {p, what}));
-        for (int k = 0; k < 120; k++) {
+        for (int k = 0; k < 110; k++) {
             calls.add(new Call("quarrel", new int[] {k % 4, 2 * k}));
             calls.add(new Call("way", new int[] {k % 4, k % 8, k / 8 % 8, k % 6, k % 3}));
         }

@@ -4,6 +4,8 @@ import java.util.Random;
 /** Long runs of calls, good and wrong ones, on TermsDesk and on the plain Model: like answers are due. */
 public final class ModelTest {
     private static final int[] ODD = {-1, 8, 24, 40, 256, 100001, Integer.MIN_VALUE, Integer.MAX_VALUE, -2, 3, 7};
+    /** An object is good for 512 calls; one step here makes 25 at most. */
+    private static final int LAST_STEP = 512 - 25;
     private static int wrong = 0;
 
     private final int run;
@@ -17,6 +19,7 @@ public final class ModelTest {
     private final int kinds;
     private final int choiceOdds;
     private final int prices;
+    private int calls = 0;
 
     private ModelTest(int run) {
         this.run = run;
@@ -30,7 +33,7 @@ public final class ModelTest {
     }
 
     public static void main(String[] args) {
-        for (int run = 0; run < 700; run++) {
+        for (int run = 0; run < 800; run++) {
             new ModelTest(run).play();
         }
         System.out.println(wrong == 0 ? "all answers are as due" : wrong + " answers are not as due");
@@ -57,6 +60,7 @@ public final class ModelTest {
     }
 
     private void call(int which) {
+        if (calls > LAST_STEP) return;
         int[] a;
         switch (which) {
             case 0 -> { a = row(pick(licences), pick(asks), pick(16), chance(50) ? 15 : pick(16));
@@ -127,6 +131,7 @@ public final class ModelTest {
     }
 
     private void due(String name, int[] a, int got, int want) {
+        calls++;
         if (got == want) return;
         wrong++;
         if (wrong <= 20) System.out.println("run " + run + ": " + name + Arrays.toString(a) + " answered " + got + ", due is " + want);

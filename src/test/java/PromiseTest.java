@@ -810,11 +810,12 @@ public final class PromiseTest {
 
     private static String tellAll(TermsDesk x) {
         StringBuilder all = new StringBuilder();
+        int parts = x.count(0);
         for (int what = 0; what < 7; what++) all.append(x.count(what)).append(' ');
-        for (int p = 0; p < x.count(0); p++)
+        for (int p = 0; p < parts; p++)
             for (int what = 0; what < 8; what++) all.append(x.look(p, what)).append(' ');
         for (int s = 0; s < 4; s++) {
-            for (int p = 0; p < x.count(0); p++)
+            for (int p = 0; p < parts; p++)
                 for (int l = 0; l < 8; l++) all.append(x.come(s, p, l)).append(' ');
             all.append(x.quarrels(s)).append(' ').append(x.cheapest(s)).append(' ');
         }

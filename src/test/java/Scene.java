@@ -34,8 +34,8 @@ final class Scene {
         return new Scene(longer);
     }
 
-    int size() {
-        return calls.size();
+    List<Call> calls() {
+        return calls;
     }
 
     TermsDesk make() {

@@ -43,7 +43,7 @@ final class State {
     /** Questions in lots, each lot on a desk of its own, behind some calls that change it. */
     private void ask(String changes, List<Call> questions) {
         List<Call> first = Call.all(changes);
-        int lot = CALLS - scene.size() - BETWEEN - first.size();
+        int lot = CALLS - scene.calls().size() - BETWEEN - first.size();
         if (lot < 20 || between.size() > BETWEEN) throw new IllegalStateException("too many calls for one desk");
         for (int done = 0; done < questions.size(); done += lot) {
             TermsDesk x = desk();

@@ -97,24 +97,32 @@ public final class TermsTest {
             "quarrels 0 = 0; come 0 0 1 = 0; come 0 1 1 = 2; count 1 = 1; count 2 = 0; count 3 = 1; look 0 3 = 0; look 1 4 = 0; look 1 2 = 0; way 0 1 1 0 0 = NONE");
         DUE.steps("its number is not given again", "part 0 NONE NONE; part 0 NONE NONE; part 0 NONE NONE; join 1 0 0 = 0; join 2 1 0 = 1; cut 0; join 1 0 3 = 2; cut 0 = false; cut 2 = true; cut 1 = true; join 2 1 0 = 3");
         DUE.steps("a JOIN that was CUT is gone: it makes no circle", "part 0 NONE NONE; part 0 NONE NONE; part 0 NONE NONE; join 1 0 0; join 2 1 0; join 0 2 0 = NONE; cut 0; join 0 2 0 = 2; join 1 0 0 = NONE; cut 1; join 1 0 0 = 3");
+        DUE.steps("a JOIN that was CUT is gone: it may lead back", "part 0 NONE NONE; part 0 NONE NONE; join 1 0 0 = 0; join 0 1 0 = NONE; cut 0; join 0 1 0 = 1; join 1 0 0 = NONE; cut 1; join 1 0 0 = 2");
         DUE.steps("a JOIN that was CUT is gone: the others stay", "asks 1 1 15 15; part 0 NONE NONE; part 1 NONE NONE; part 2 NONE NONE; join 1 0 0; join 1 2 0; join 2 0 0; cut 0; come 0 0 1 = 2; cut 2; come 0 0 1 = 0; come 0 2 1 = 2; count 2 = 1");
     }
 
     private static void exceptionLiftsOne() {
-        for (int l = 0; l < 8; l += 7)
+        for (int l = 0; l < 8; l++)
             for (int d = 0; d < 8; d++)
-                for (int p = 0; p < 3; p++) {
-                    TermsDesk x = Scene.of(Scene.row("part", l, 3, -1).repeat(3)).make();
-                    for (int e = 0; e < 8; e++) DUE.holds("asks", x.asks(l, e, 15, 15) && x.asks(3, e, 15, 15));
-                    x.except(p, l, d);
-                    for (int q = 0; q < 3; q++) DUE.is("an EXCEPTION lifts one ASK for a PART", x.come(0, q, l), q == p ? 255 - (1 << d) : 255);
-                    x.take(p, 1);
-                    DUE.is("an EXCEPTION lifts one ASK of one LICENCE", x.come(0, p, 3), 255);
-                    DUE.holds("take it back", x.take(p, 0));
-                    DUE.is("an EXCEPTION stays", x.come(0, p, l), 255 - (1 << d));
-                }
+                for (int p = 0; p < 3; p++) lifted(p, l, d);
         DUE.steps("an EXCEPTION lifts it by every SHIPPING", "asks 1 1 15 15; part 1 NONE NONE; except 0 1 1; come 0 0 1 = 0; come 1 0 1 = 0; come 2 0 1 = 0; come 3 0 1 = 0");
         DUE.steps("an EXCEPTION is told before the ASK", "part 1 NONE NONE; except 0 1 1 = true; asks 1 1 15 15; come 0 0 1 = 0; except 0 1 1 = false");
+    }
+
+    /** Three parts that may all have licence l and its neighbours, each of which asks all. */
+    private static void lifted(int p, int l, int d) {
+        int above = (l + 1) % 8;
+        int below = (l + 7) % 8;
+        TermsDesk x = Scene.of(Scene.row("part", l, above, below).repeat(3)).make();
+        for (int k = 0; k < 64; k++) x.asks(k / 8, k % 8, 15, 15);
+        DUE.holds("an EXCEPTION for a PART", x.except(p, l, d));
+        for (int q = 0; q < 3; q++) DUE.is("an EXCEPTION lifts one ASK for a PART", x.come(0, q, l), q == p ? 255 - (1 << d) : 255);
+        x.take(p, 1);
+        DUE.is("an EXCEPTION lifts one ASK of one LICENCE", x.come(0, p, above), 255);
+        x.take(p, 2);
+        DUE.is("an EXCEPTION lifts one ASK of one LICENCE", x.come(0, p, below), 255);
+        x.take(p, 0);
+        DUE.is("an EXCEPTION stays", x.come(0, p, l), 255 - (1 << d));
     }
 
     private static void exceptionOfWhatComesFromOthers() {
@@ -180,11 +188,23 @@ public final class TermsTest {
             "quarrels 0 = 5; quarrel 0 0 = 80; quarrel 0 1 = 86; quarrel 0 2 = 143; quarrel 0 3 = 144; quarrel 0 4 = 150; quarrel 0 5 = NONE; quarrel 0 -1 = NONE; quarrel 0 MIN = NONE; quarrel 0 MAX = NONE");
     }
 
+    /** A small and a full desk, made and asked by turns: each answers as if it were alone. */
     private static void twoDesks() {
         TermsDesk[] desks = {new TermsDesk(), new TermsDesk()};
-        for (TermsDesk x : desks) DUE.go(x, "all memory is the desk's own", "part 0 1 NONE = 0; part 1 0 NONE = 1; join 1 0 0 = 0; asks 1 1 15 15; change 0 0 2 5 = 0");
-        DUE.go(desks[0], "all memory is the desk's own", "bars 0 2; asks 1 1 1 15; take 1 1; except 0 1 1; product 1; cut 0; change 0 0 2 5 = 1");
-        for (String call : List.of("quarrels 0 = 0", "come 3 0 1 = 2", "look 1 0 = 1", "except 0 1 1 = true", "count 5 = 0", "count 2 = 1", "price 2 = NONE", "count 6 = 4", "notice 0 0 = NONE"))
-            DUE.go(desks[1], "all memory is the desk's own", call);
+        Model[] models = {new Model(), new Model()};
+        List<List<Call>> calls = List.of(Scene.SMALL.calls(), Scene.FULL.calls());
+        for (int k = 0; k < 200; k++)
+            for (int i = 0; i < 2; i++)
+                if (k < calls.get(i).size()) byTurns(desks[i], models[i], calls.get(i).get(k));
+        StringBuilder asked = new StringBuilder("judge 0; count 3; count 5; count 6; price 7; quarrels 0; quarrels 1;");
+        for (int p = 0; p < 24; p++) for (int what = 0; what < 8; what++) asked.append(Scene.row("look", p, what));
+        for (int p = 0; p < 6; p++) for (int l = 0; l < 8; l++) asked.append(Scene.row("come", l % 4, p, l));
+        for (int j = 0; j < 40; j += 3) asked.append(Scene.row("cut", j)).append(Scene.row("except", j % 24, j % 8, 7)).append(Scene.row("take", j % 7, j % 3));
+        for (Call call : Call.all(asked.toString()))
+            for (int i = 0; i < 2; i++) byTurns(desks[i], models[i], call);
+    }
+
+    private static void byTurns(TermsDesk x, Model m, Call call) {
+        DUE.is("all memory is the desk's own: " + call, call.on(x), call.on(m));
     }
 }
